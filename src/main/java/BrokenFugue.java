@@ -52,6 +52,9 @@ public final class BrokenFugue {
   private static final int MADE_CHOICES = 15;
   private static final int MADE_PAIRS = 225;
 
+  // Above every price and every total of prices.
+  private static final int NO_BOUND = 2147483647;
+
   private static final int RESTS = 0;
   private static final int BEGINS = 1;
   private static final int HELD = 2;
@@ -290,7 +293,7 @@ public final class BrokenFugue {
     }
     fitter.begin(rules[text], now.bar, now.subjects[one]);
     int form = (m - 1) * UNSTRETCHED_FORMS + (turned ? UPRIGHT_FORMS : 0) + d * HEIGHTS + h + TOP_HEIGHT;
-    return fitter.priceOf(rules[text], now.subjects[other], form, Integer.MAX_VALUE);
+    return fitter.priceOf(rules[text], now.subjects[other], form, NO_BOUND);
   }
 
   public int fits(int text, int one, int other, int limit, int i) {
@@ -1471,7 +1474,7 @@ public final class BrokenFugue {
       bar = newBar;
       first.takeForm(one, TOP_HEIGHT);
       judge.begin(bar, NONE);
-      judge.askLines(rules, first, Integer.MAX_VALUE);
+      judge.askLines(rules, first, NO_BOUND);
       firstPrice = judge.total;
     }
 
@@ -1487,7 +1490,7 @@ public final class BrokenFugue {
 
     /** Finds the first form of the least price, or merely the first whose price is enough or less. */
     void findCheapest(Rules rules, Line other, int enough) {
-      bestPrice = Integer.MAX_VALUE;
+      bestPrice = NO_BOUND;
       bestForm = 0;
       for (int form = 0; form < FORMS && bestPrice > Math.max(0, enough); form++) {
         int price = priceOf(rules, other, form, bestPrice - 1);
@@ -1500,10 +1503,10 @@ public final class BrokenFugue {
 
     void findThree(Rules rules, Line two, Line other) {
       for (int i = 0; i < THREE_FORMS; i++) {
-        secondPrices[i] = priceOf(rules, two, formOfThree(i), Integer.MAX_VALUE);
-        thirdPrices[i] = priceOf(rules, other, formOfThree(i), Integer.MAX_VALUE) - firstPrice;
+        secondPrices[i] = priceOf(rules, two, formOfThree(i), NO_BOUND);
+        thirdPrices[i] = priceOf(rules, other, formOfThree(i), NO_BOUND) - firstPrice;
       }
-      bestPrice = Integer.MAX_VALUE;
+      bestPrice = NO_BOUND;
       for (int i = 0; i < THREE_FORMS; i++) {
         second.takeForm(two, formOfThree(i));
         for (int k = 0; k < THREE_FORMS; k++) {
@@ -1617,7 +1620,7 @@ public final class BrokenFugue {
     private void solveNote(Rules rules, int j) {
       Line line = voices[voice];
       int t = from + j;
-      Arrays.fill(leasts[j], Integer.MAX_VALUE);
+      Arrays.fill(leasts[j], NO_BOUND);
       for (int ahead = 0; ahead < (j > 0 ? many : 1); ahead++) {
         singAt(j - 1, ahead);
         for (int choice = 0; choice < many; choice++) {
