@@ -46,7 +46,9 @@ public final class BrokenFugue {
 
   private static final int TOP_STEP = 12;
   private static final int STEPS = 25;
+  // What lies behind a voice's first note, and what is learnt when nothing is asked behind a step: never alike.
   private static final int NO_STEP = 100;
+  private static final int NO_STEP_ASKED = 101;
   private static final int MADE_NOTES = 5;
   private static final int MADE_REACH = 7;
   private static final int MADE_CHOICES = 15;
@@ -124,8 +126,7 @@ public final class BrokenFugue {
   private static final int LEVEL_AND = 2;
   private static final int LEVEL_SUM = 5;
   private static final int LEVEL_PRODUCT = 6;
-  private static final int LEVEL_NEGATIVE = 7;
-  // By operator, OPEN first: what binds tighter has the higher level; an open parenthesis stops all.
+  // By operator, OPEN first: what binds tighter has the higher level; an open parenthesis lets go none.
   private static final int[] LEVELS = {0, 1, 2, 3, 4, 4, 4, 4, 4, 4, 5, 5, 6, 6, 7};
 
   private static final int FAULT_MISPLACED = 1;
@@ -361,7 +362,7 @@ public final class BrokenFugue {
     if (!isSet(set) || !within(step, -TOP_STEP, TOP_STEP)) {
       return NONE;
     }
-    learn(steps, set, NO_STEP + 1);
+    learn(steps, set, NO_STEP_ASKED);
     return steps.seen[step + TOP_STEP];
   }
 
@@ -369,8 +370,8 @@ public final class BrokenFugue {
     if (!isSet(set) || !isPiece(piece)) {
       return NONE;
     }
-    learn(otherSteps, set & ~(1 << piece), NO_STEP + 1);
-    learn(steps, 1 << piece, NO_STEP + 1);
+    learn(otherSteps, set & ~(1 << piece), NO_STEP_ASKED);
+    learn(steps, 1 << piece, NO_STEP_ASKED);
     return steps.strangeBy(otherSteps);
   }
 
@@ -401,7 +402,7 @@ public final class BrokenFugue {
     if (lastNote < 0) {
       return NONE;
     }
-    learn(steps, set, NO_STEP + 1);
+    learn(steps, set, NO_STEP_ASKED);
     int unseen = 0;
     for (int pitch = 0; pitch <= TOP_PITCH; pitch++) {
       if (steps.seen[boundedStep(pitch - line.pitch[lastNote]) + TOP_STEP] == 0) {
@@ -423,8 +424,8 @@ public final class BrokenFugue {
     if (!isSet(one) || !isSet(other)) {
       return NONE;
     }
-    learn(steps, one, NO_STEP + 1);
-    learn(otherSteps, other, NO_STEP + 1);
+    learn(steps, one, NO_STEP_ASKED);
+    learn(otherSteps, other, NO_STEP_ASKED);
     return steps.distanceTo(otherSteps);
   }
 
@@ -432,11 +433,11 @@ public final class BrokenFugue {
     if (!isPiece(piece) || !within(what, 0, 1)) {
       return NONE;
     }
-    learn(steps, 1 << piece, NO_STEP + 1);
+    learn(steps, 1 << piece, NO_STEP_ASKED);
     int nearest = NONE;
     int least = NONE;
     for (int hand = 0; hand < HANDS; hand++) {
-      learn(otherSteps, now.piecesOf(hand) & ~(1 << piece), NO_STEP + 1);
+      learn(otherSteps, now.piecesOf(hand) & ~(1 << piece), NO_STEP_ASKED);
       int distance = steps.distanceTo(otherSteps);
       if (distance != NONE && (nearest == NONE || distance < least)) {
         nearest = hand;
@@ -706,8 +707,8 @@ public final class BrokenFugue {
   private int worth(int text, int set, int ending, int k) {
     judge.begin(now.bar, NONE);
     judge.askPiece(rules[text], now.voices, ending * VOICES, k);
-    learn(otherSteps, set & ~(1 << ending), NO_STEP + 1);
-    learn(steps, 1 << ending, NO_STEP + 1);
+    learn(otherSteps, set & ~(1 << ending), NO_STEP_ASKED);
+    learn(steps, 1 << ending, NO_STEP_ASKED);
     return judge.total + Math.max(0, steps.strangeBy(otherSteps));
   }
 
@@ -1070,7 +1071,6 @@ public final class BrokenFugue {
 
     private void takeOperand(Rules into, int mark) {
       into.emit(mark);
-      release(into, LEVEL_NEGATIVE);
       due = BEHIND_ONE;
     }
 
@@ -1147,7 +1147,6 @@ public final class BrokenFugue {
       waitingCount = Math.max(0, waitingCount - 1);
       parentheses--;
       around--;
-      release(into, LEVEL_NEGATIVE);
     }
 
     private void scan() {
@@ -1464,14 +1463,12 @@ public final class BrokenFugue {
     private final int[] changes = new int[SUBJECT_BEATS];
     private final int[] secondPrices = new int[THREE_FORMS];
     private final int[] thirdPrices = new int[THREE_FORMS];
-    private int bar = 4;
     private int firstPrice = 0;
     private int bestPrice = 0;
     private int bestForm = 0;
     private int bestThird = 0;
 
-    void begin(Rules rules, int newBar, Line one) {
-      bar = newBar;
+    void begin(Rules rules, int bar, Line one) {
       first.takeForm(one, TOP_HEIGHT);
       judge.begin(bar, NONE);
       judge.askLines(rules, first, NO_BOUND);
@@ -1481,7 +1478,6 @@ public final class BrokenFugue {
     /** The price of a fit; of one above most no more than that it is above it. */
     int priceOf(Rules rules, Line other, int form, int most) {
       second.takeForm(other, form);
-      judge.begin(bar, NONE);
       judge.total = firstPrice;
       judge.askLines(rules, second, most);
       judge.askPairs(rules, first, second, most);

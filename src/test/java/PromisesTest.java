@@ -115,6 +115,10 @@ public final class PromisesTest {
     due("ahead of it", 3, x.note(2, 0, 0, 7, 2));
     due("it", 9, x.at(2, 0, 2));
     due("held, not begun anew", 107, x.at(2, 0, 1));
+    x.note(3, 1, 24, 33, 8);
+    x.note(3, 1, 30, 34, 1);
+    due("begins on the last beat", 33, x.at(3, 1, 31));
+    due("held up to there", 133, x.at(3, 1, 29));
     for (int bad : new int[] {LOWEST, -1, 4, HIGHEST}) {
       due("piece", NONE, x.note(bad, 0, 0, 1, 1));
       due("voice", NONE, x.note(0, bad, 0, 1, 1));
@@ -291,6 +295,25 @@ public final class PromisesTest {
     due("a faulty seventh", NONE, x.text());
     due("its tape stays", 5, x.about(4));
     due("six", 6, x.about(1));
+    // What a faulty text left behind does not trouble the next.
+    BrokenFugue y = new BrokenFugue();
+    y.note(0, 0, 0, 30, 1);
+    y.note(0, 1, 0, 23, 1);
+    y.page(1, 0, 0, 0);
+    y.page(2, 0, 0, 0);
+    String nines = "pair 9 when 9=9 and 9=9 and 9=9 and 9=9 and 9=9 and 9=9 and 9=9 and 9=9;";
+    for (int i = 0; i < 5; i++) {
+      due("a long faulty one", NONE, read(y, nines + nines + nines + "pair ((((((((1 ;"));
+      due("negatives open", NONE, read(y, "pair --------" + (i % 2 == 0 ? ";" : "(1 when 2=2;")));
+      due("nots open", NONE, read(y, nines + "ahead not not not not not not not not 1<;"));
+    }
+    due("a parenthesis that none opens", NONE, read(y, "pair 1) when 1=1;"));
+    due("its place", 6, y.fault(1));
+    due("eight deep", 0, read(y, "ahead not not not not not not not -number>-numberb;"
+        + "pair -((((((-1)))))) when not not not not not not not not gap=7;pair 4 when 3<2;"));
+    due("its price", 1, y.price(0, 0));
+    due("its order", 1, y.orders(0));
+    due("the second ahead", 1, y.where(0, 1, 0));
   }
 
   private static void fault(String text, int fault, int place) {
@@ -402,6 +425,10 @@ public final class PromisesTest {
     sum("(999*999+999+999+999-999*999)/2", 999);
     sum("(-(999*999)-999-999-999+999*999)/2", -999);
     sum("999*999/999-999", 0);
+    sum("2*-(3-5)*2+-1", 7);
+    sum("-(2)*-(3)--4/-2", 4);
+    sum("20-2*3-8/4/2", 13);
+    sum("100/(2+3)*-2+(4-(5-(6-7)))", -42);
     BrokenFugue x = new BrokenFugue();
     x.note(0, 0, 0, 30, 2);
     x.note(0, 0, 2, 37, 1);
@@ -428,7 +455,14 @@ public final class PromisesTest {
     due("no break at a first note or a held beat", 5, read(x, "line 1 when 1=1;"));
     due("as many as begin behind", 4, x.price(5, 1));
     due("without notes", 0, x.price(5, 2));
-    for (int bad : new int[] {LOWEST, -1, 6, HIGHEST}) {
+    x.back();
+    x.note(3, 2, 0, 9, 1);
+    x.note(3, 3, 0, 9, 1);
+    read(x, "pair 100 when cross=1;");
+    due("unison is no crossing", 0, x.price(0, 3));
+    x.note(3, 3, 0, 10, 1);
+    due("crossing", 100, x.price(0, 3));
+    for (int bad : new int[] {LOWEST, -1, 1, 6, HIGHEST}) {
       due("text", NONE, x.price(bad, 0));
     }
     for (int bad : new int[] {LOWEST, -1, 4, HIGHEST}) {
@@ -444,6 +478,9 @@ public final class PromisesTest {
     x.note(0, 1, 0, 23, 1);
     String[] so = {"1=1 or 1=1 and 1=2", "1=2 and 1=1 or 1=1", "not 1=2", "not not 1=1", "not 1=2 and 1=1",
         "not 1=1 or 1=1", "1<2", "2<=2", "2>1", "2>=2", "1#2", "gap=7 and low=23 and high=30"};
+    for (String sign : new String[] {"<", "<=", ">", ">=", "=", "#"}) {
+      comparison(sign);
+    }
     String[] not = {"1=2 or 1=1 and 1=2", "not 1=1", "not 1=2 and 1=2", "2<2", "3<=2", "2>2", "1>=2", "2#2",
         "1=1 and 1=2 or 1=2"};
     x.image();
@@ -457,6 +494,36 @@ public final class PromisesTest {
       read(x, "pair 3 when " + asks + ";");
       due(asks, 0, x.price(0, 0));
       due(asks + " breaks", 0, x.breaks(0, 0, NONE, 0));
+    }
+  }
+
+  /** One comparison of sums on both sides, within all that can lie around it. */
+  private static void comparison(String sign) {
+    BrokenFugue x = new BrokenFugue();
+    x.note(0, 0, 0, 30, 1);
+    x.note(0, 1, 0, 23, 1);
+    x.image();
+    for (int difference = -1; difference <= 1; difference++) {
+      boolean so = switch (sign) {
+        case "<" -> difference < 0;
+        case "<=" -> difference <= 0;
+        case ">" -> difference > 0;
+        case ">=" -> difference >= 0;
+        case "=" -> difference == 0;
+        default -> difference != 0;
+      };
+      String asks = "2*3+1*" + (4 + difference) + "-2" + sign + "16-4*2+0/5";
+      for (String around : new String[] {"?", "? and 1=1", "1=1 and ?", "? or 1=2", "1=2 or ?", "not not ?",
+          "1=2 or not not ? and not 1=2 or 2=1", "not 1=1 or ?", "? and ?", "? or ?"}) {
+        x.back();
+        due(around, 0, read(x, "pair 3 when " + around.replace("?", asks) + ";"));
+        due(around.replace("?", asks), so ? 3 : 0, x.price(0, 0));
+      }
+      for (String around : new String[] {"not ?", "not ? and 1=1", "1=2 or not ?", "not ? or not ?"}) {
+        x.back();
+        read(x, "pair 3 when " + around.replace("?", asks) + ";");
+        due(around.replace("?", asks), so ? 0 : 3, x.price(0, 0));
+      }
     }
   }
 
@@ -651,11 +718,20 @@ public final class PromisesTest {
     due("lines of all", 33 + 3, x.three(3, 0, 1, 2, 0));
     due("first second", 7, x.three(3, 0, 1, 2, 1));
     due("first third", 7, x.three(3, 0, 1, 2, 2));
+    // Only turned, at 3, and up by 5 are they so far up; the third never comes to 33.
+    subjectOf(x, 0, 0, 0, 0, 0, 0, 0, 0, 0, 0, 0, 0, 0);
+    subjectOf(x, 1, 2, 4);
+    subjectOf(x, 2, 9, 13);
+    x.bar(12);
+    read(x, "line 20 when step>0;pair 9 when place<3;pair 9 when high<33 and place=3;pair 9 when low<26 and place=3;");
+    due("the last forms' price", 9, x.three(4, 0, 1, 2, 0));
+    due("the last second", 5317, x.three(4, 0, 1, 2, 1));
+    due("the last third", 5317, x.three(4, 0, 1, 2, 2));
     due("what 3", NONE, x.three(0, 0, 1, 2, 3));
     due("two alike", NONE, x.three(0, 0, 0, 2, 0));
     due("first and third alike", NONE, x.three(0, 0, 1, 0, 0));
     due("the others alike", NONE, x.three(0, 0, 1, 1, 0));
-    for (int bad : new int[] {LOWEST, -1, 4, HIGHEST}) {
+    for (int bad : new int[] {LOWEST, -1, 5, HIGHEST}) {
       due("what", NONE, x.three(0, 0, 1, 2, bad));
       due("text", NONE, x.three(bad, 0, 1, 2, 0));
       due("one", NONE, x.three(0, bad, 1, 2, 0));
@@ -713,6 +789,20 @@ public final class PromisesTest {
       due("other", NONE, x.chance(0, 0, bad, 0, 1, 0));
     }
     due("the subject stays as it is", 5, x.about(31));
+    due("greatest seed", 40, x.chance(1, 0, 3, 0, 40, 9999));
+    // X goes 1234, 11606, 19753, 6542: mod 5, 4, 3, 2 that is 4, 2, 1, 0. So 1, 2, 4, 8, 16 becomes 8, 1, 2, 4, 16.
+    BrokenFugue y = new BrokenFugue();
+    read(y, "line 1 when last=0 and step#8;line 1 when last=8 and step#1;line 1 when last=1 and step#2;"
+        + "line 1 when last=2 and step#4;line 1 when last=4 and step#16;line 1 when last>8;");
+    subjectOf(y, 0, 0);
+    subjectOf(y, 1, -20, -19, -100, -17, -13, -5, 11);
+    y.subject(1, 7, 11, 4);
+    y.subject(1, 7, -100, 1);
+    y.subject(1, 8, -100, 4);
+    due("five changes", 1, y.chance(0, 0, 1, 0, 1, 1234));
+    due("the row of another seed", 0, y.chance(0, 0, 1, 0, 1, 1235));
+    subjectOf(y, 2, 0, 8, 9, 11, 15, 17, 1);
+    due("of another", 0, y.chance(0, 1, 2, 0, 1, 1234));
   }
 
   private static void promise18Seen() {
@@ -758,6 +848,12 @@ public final class PromisesTest {
     due("as most are", 0, x.strange(3, 2));
     // With piece 2: 2 four times; -1, 1 once: 1000 - 250.
     due("more of them", (0 + 750 + 1000) / 3, x.strange(6, 0));
+    // A fall of 20 counts as 12 down, first of the steps.
+    BrokenFugue y = new BrokenFugue();
+    sing(y, 0, 0, 0, 40, 20);
+    sing(y, 1, 0, 0, 50, 30, 31);
+    due("seen as 12 down", 0, y.strange(2, 0));
+    due("two steps", 500, y.strange(1, 1));
     for (int bad : new int[] {LOWEST, -1, 16, HIGHEST}) {
       due("set", NONE, x.strange(bad, 0));
       due("piece", NONE, x.strange(2, bad));
@@ -863,6 +959,9 @@ public final class PromisesTest {
     due("nothing alike", 666 + 333 + 1000, x.apart(1, 4));
     // 1: 3 of 5, 2: 1 of 5, -2: 1 of 5.
     due("two pieces", 66 + 133 + 200, x.apart(3, 1));
+    due("of one step", 666 + 333 + 1000, x.apart(4, 1));
+    sing(x, 2, 0, 0, 30, 10);
+    due("down as 12 down", 666 + 333 + 1000, x.apart(4, 1));
     due("no steps", NONE, x.apart(1, 8));
     due("none of one", NONE, x.apart(8, 1));
     due("no pieces", NONE, x.apart(0, 1));
@@ -900,6 +999,9 @@ public final class PromisesTest {
     x.note(3, 0, 0, NONE, 8);
     due("those without steps don't count", 2, x.whose(0, 0));
     due("it has no steps", NONE, x.whose(3, 0));
+    x.hand(0, 1);
+    due("of the first piece", 1, x.whose(2, 0));
+    due("how far from it", 2000, x.whose(2, 1));
     for (int bad : new int[] {LOWEST, -1, 4, HIGHEST}) {
       due("piece", NONE, x.whose(bad, 0));
     }
@@ -939,6 +1041,8 @@ public final class PromisesTest {
     due("strange by itself is none", 13, x.endings(0, 2, 0, 3, 11));
     due("of another piece", 0, x.endings(0, 0, 1, 4, 0));
     due("worth by another's view", 20, x.endings(0, 0, 1, 0, 10));
+    due("the first piece counts", 3, x.endings(0, 0, 1, 0, 0));
+    due("the first piece is best", 0, x.endings(0, 0, 1, 0, 1));
     // Begun anew is not held on.
     x.note(2, 3, 0, 5, 2);
     x.note(0, 3, 0, 5, 1);
@@ -992,10 +1096,17 @@ public final class PromisesTest {
     read(x, "pair 9 when mine#2 and yours#2;pair 9 when hold=1;pair 1 when cross=1 and was<0;");
     due("as v", 1, x.made(3, 0, 0, 1, NONE));
     due("mine 2", 33, x.made(3, 0, 0, 1, 0));
+    x.bar(2);
+    due("by the bar", 21 + 20, x.made(1, 0, 0, 2, NONE));
+    x.bar(4);
     // Voice 3 came first and rests long; nothing sounds where it goes on but 1 and 2.
     x.note(0, 3, 0, 2, 3);
     due("as w, from its own end", 0, x.made(3, 0, 3, 1, NONE));
     due("up two as w", 4, x.made(3, 0, 3, 1, 0));
+    x.note(2, 0, 0, 30, 4);
+    x.note(2, 3, 0, 30, 1);
+    due("against the first voice too", 3 + 1 + 6 + 1, x.made(1, 2, 3, 2, NONE));
+    due("up twice", 36, x.made(1, 2, 3, 2, 1));
     x.note(1, 0, 0, 3, 1);
     read(x, "line 1 when pitch>0;");
     due("0 at least", 0, x.made(4, 1, 0, 5, 4));
