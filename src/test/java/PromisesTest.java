@@ -790,6 +790,13 @@ public final class PromisesTest {
     }
     due("the subject stays as it is", 5, x.about(31));
     due("greatest seed", 40, x.chance(1, 0, 3, 0, 40, 9999));
+    // The one sounds as it is, from the first such call on.
+    BrokenFugue z = new BrokenFugue();
+    read(z, "pair 1 when 1=1;");
+    subjectOf(z, 0, 0, 0, 0, 0, 0, 0, 0, 0, 0, 0, 0, 0);
+    subjectOf(z, 1, 5);
+    due("together at each delay", 0, z.chance(0, 0, 1, 0, 7, 3));
+    due("for 1", 7, z.chance(0, 0, 1, 1, 7, 3));
     // X goes 1234, 11606, 19753, 6542: mod 5, 4, 3, 2 that is 4, 2, 1, 0. So 1, 2, 4, 8, 16 becomes 8, 1, 2, 4, 16.
     BrokenFugue y = new BrokenFugue();
     read(y, "line 1 when last=0 and step#8;line 1 when last=8 and step#1;line 1 when last=1 and step#2;"
@@ -1270,6 +1277,12 @@ public final class PromisesTest {
     for (int bad : new int[] {LOWEST, -1, 6, HIGHEST}) {
       due("text", NONE, x.orders(bad));
     }
+    BrokenFugue z = new BrokenFugue();
+    for (int i = 0; i < 8; i++) {
+      z.page(i, i, i, i);
+    }
+    read(z, "ahead size=0 and sizeb=7 or size=7 and sizeb=1;");
+    due("the last page ahead and behind", 40320 / 6, z.orders(0));
     // One way round is enough, whichever page was told first.
     BrokenFugue y = new BrokenFugue();
     y.page(2, 0, 0, 0);
