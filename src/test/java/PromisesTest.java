@@ -1,5 +1,5 @@
 /** Each promise of the document by hand-worked answers: ordinary inputs, edges, wrong inputs. */
-public final class PromisesTest {
+public final class PromisesTest extends SetUp {
   private static final int NONE = BrokenFugue.NONE;
   private static final int LOWEST = Integer.MIN_VALUE;
   private static final int HIGHEST = Integer.MAX_VALUE;
@@ -18,38 +18,6 @@ public final class PromisesTest {
 
   private static void due(String what, boolean want, boolean got) {
     due(what, want ? 1 : 0, got ? 1 : 0);
-  }
-
-  /** Lays a text on the tape, whatever lay there. */
-  private static void lay(BrokenFugue x, String text) {
-    x.end(0);
-    for (int from = 0; from < text.length(); from += 20) {
-      int[] fours = new int[5];
-      for (int i = 0; i < 20; i++) {
-        int at = from + i;
-        fours[i / 4] = fours[i / 4] << 8 | (at < text.length() ? text.charAt(at) : 0);
-      }
-      x.feed(fours[0], fours[1], fours[2], fours[3], fours[4]);
-    }
-    x.end(text.length());
-  }
-
-  private static int read(BrokenFugue x, String text) {
-    lay(x, text);
-    return x.text();
-  }
-
-  /** Notes of one beat each from a beat on; NONE rests. */
-  private static void sing(BrokenFugue x, int piece, int voice, int from, int... pitches) {
-    for (int i = 0; i < pitches.length; i++) {
-      x.note(piece, voice, from + i, pitches[i], 1);
-    }
-  }
-
-  private static void subjectOf(BrokenFugue x, int subject, int... pitches) {
-    for (int i = 0; i < pitches.length; i++) {
-      x.subject(subject, i, pitches[i], 1);
-    }
   }
 
   private static void promise1NewObject() {
