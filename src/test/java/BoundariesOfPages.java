@@ -32,6 +32,17 @@ final class BoundariesOfPages extends Boundaries {
     read(y, "ahead number=99 and ruling=1 and ink=2 and size=3 and numberb=0 and rulingb=4 and inkb=5 and sizeb=6;");
     due(1, y.orders(0));
     due(1, y.where(0, 0, 0));
+    // The last page's last sign, as x's and as y's.
+    for (int page = 2; page < 8; page++) {
+      y.page(page, page, page, page);
+    }
+    read(y, "ahead size=7 and sizeb=2;");
+    read(y, "ahead size=2 and sizeb=7;");
+    due(20160, y.orders(1));
+    due(0, y.where(1, 2, 0));
+    due(5040, y.where(1, 7, 0));
+    due(20160, y.orders(2));
+    due(0, y.where(2, 7, 0));
   }
 
   @Holds(promise = 30, words = "A PAGE: its number. NONE for others, or if there are 8.")

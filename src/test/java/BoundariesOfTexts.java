@@ -161,6 +161,36 @@ final class BoundariesOfTexts extends Boundaries {
   }
 
   @Holds(promise = 9, words = "NONE: it has a FAULT; or (the tape stays) there are 6.")
+  static void nothingIsLeftOfAFaultyText(BrokenFugue x) {
+    x.page(1, 0, 0, 0);
+    x.page(2, 0, 0, 0);
+    sing(x, 0, 0, 0, 5);
+    sing(x, 0, 1, 0, 5);
+    // Long ones, with as many clauses as there can be, again and again.
+    for (int times = 0; times < 6; times++) {
+      due(NONE, read(x, "pair 999+999+999+999+999+999+999+999+999+999 when 1=1;".repeat(5) + "!"));
+      due(NONE, read(x, "ahead 1=1;beside 1=1;".repeat(5) + "!"));
+    }
+    due(0, read(x, "ahead number<numberb;pair 7 when 1=1;"));
+    due(1, x.orders(0));
+    due(1, x.where(0, 0, 0));
+    due(7, x.price(0, 0));
+    due(1, x.breaks(0, 0, NONE, 0));
+    due(1, x.breaks(0, 0, 0, 3));
+    due(NONE, read(x, "ahead 1=1;".repeat(10) + "!"));
+    due(1, read(x, "beside 1=1;"));
+    due(2, x.orders(1));
+    due(0, x.price(1, 0));
+    // Nor of one that BACK has taken away.
+    x.back();
+    x.page(1, 0, 0, 0);
+    x.page(2, 0, 0, 0);
+    due(0, read(x, "beside number=1;"));
+    due(2, x.orders(0));
+    due(0, x.price(0, 0));
+  }
+
+  @Holds(promise = 9, words = "NONE: it has a FAULT; or (the tape stays) there are 6.")
   static void theTapeStaysOfASeventh(BrokenFugue x) {
     for (int text = 0; text < 6; text++) {
       due(text, read(x, ""));
